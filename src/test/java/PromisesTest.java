@@ -230,6 +230,11 @@ public final class PromisesTest {
         y.edge(2, 2, 3, 9);
         y.edge(3, 3, 4, 9);
         due("a line", y.all(5), 6561);
+        ShunLots z = new ShunLots(2);
+        z.edge(0, 2, 0, 5);
+        due("a post beyond", z.all(2), 0);
+        z.edge(0, 1, 2, 5);
+        due("a post beyond", z.all(2), 0);
     }
 
     private static void trees() {
@@ -255,6 +260,8 @@ public final class PromisesTest {
             due("no p", x.trees(place, 0), false);
         }
         x.edge(1, 1, 2, 0);
+        x.tell(0, 1);
+        due("a law with the empty set", x.hand(3), true);
         due("weight 0", x.trees(3, 3), true);
         dueShares(x, 3, 0, 0, 0, 0, 0, 1, 0, 0, 0, 0, 0, 0, 0, 0, 0, 0);
         dueShares(x, 5, 0, 0, 0, 2, 0, 3, 6, 0, 0, 0, 0, 0, 0, 0, 0, 0);
@@ -577,6 +584,7 @@ public final class PromisesTest {
         due("up", told(2, 0, 1, 1, 1, 3).rises(0), 1);
         due("down", told(2, 0, 3, 1, 1, 1).rises(0), 1);
         due("level", told(2, 0, 2, 1, 1, 2).rises(0), 1);
+        due("down, level", told(2, 0, 3, 1, 0, 1).rises(0), 1);
         due("a hollow", told(2, 0, 2, 1, 0, 2).rises(0), 0);
         due("up and down", told(2, 0, 1, 1, 1, 1).rises(0), 1);
         due("a gap", told(3, 0, 1, 0, 0, 0, 0, 0, 0, 1).rises(0), 0);
@@ -637,6 +645,9 @@ public final class PromisesTest {
         x.tell(3, 12);
         x.tell(0, 4);
         x.hand(2);
+        due("all unlike", x.same(2, 1), 0);
+        x.tell(0, 5);
+        x.hand(1);
         due("the first unlike", x.same(2, 1), 0);
         due("none there", x.same(0, 3), -1);
         due("none there", x.same(3, 0), -1);
