@@ -60,6 +60,7 @@ public final class RefusalsTest {
         rows.add(row(3, "told", -10, (x, a) -> x.told(a[0], a[1], a[2]), usual(2, 0, 1),
             Kind.TABLE, Kind.THING, Kind.THING));
         rows.add(row(4, "worth", 0, (x, a) -> x.worth(a[0], a[1]), usual(2, 1), Kind.TABLE, Kind.SET));
+        rows.add(row(5, "why", -1, (x, a) -> x.why(a[0]), usual(2), Kind.TABLE));
         rows.add(row(6, "whole", 0, (x, a) -> x.whole(a[0]), usual(2), Kind.TABLE));
         rows.add(row(7, "shun", 0, (x, a) -> of(x.shun(a[0], a[1])), usual(2, 3), Kind.TABLE, Kind.PLACE));
         rows.add(row(8, "edge", 0, (x, a) -> of(x.edge(a[0], a[1], a[2], a[3])), usual(1, 3, 4, 8),
@@ -249,7 +250,11 @@ public final class RefusalsTest {
         }
     }
 
+    /** Not of why(), whose answer is NONE for these TABLES as well as for none. */
     private static void argumentsAtTheEnds(Row row, int n, int missing) {
+        if (row.name().equals("why")) {
+            return;
+        }
         for (int position = 0; position < row.usual().length; position++) {
             for (int v : ends(row.kinds()[position], n, missing)) {
                 int[] arguments = with(row.usual(), position, v);
@@ -337,13 +342,8 @@ public final class RefusalsTest {
         }
     }
 
-    /** The calls that only ask, and why(), which no row has, as its answer is NONE in either case. */
     private static void askersDoNothing(List<Row> rows) {
         String twin = state(bench(4, 5), 4);
-        ShunLots asked = bench(4, 5);
-        if (asked.why(2) != -1 || !state(asked, 4).equals(twin)) {
-            fault(5, "why did something");
-        }
         for (Row row : rows) {
             boolean asks = row.promise() >= 18 || row.promise() == 9 || row.promise() <= 6 && row.promise() != 2;
             ShunLots x = bench(4, 5);
