@@ -14,6 +14,9 @@ import java.util.regex.Pattern;
 /** The public face, and those rules of LANGUAGE.md that can be seen without reading the sense. */
 public final class LanguageTest {
     private static final String SOURCE = "src/main/java/ShunLots.java";
+    private static final Path DOCUMENT = Path.of("../shared/DOC.md");
+    private static final int MOST_CLASSES = 12;
+    private static final int MOST_FIELDS = 20;
     private static final String[] FACE = {
         "boolean entry(int, int, int, int)", "int told(int, int, int)", "long worth(int, int)",
         "int why(int)", "long whole(int)", "boolean shun(int, int)",
@@ -75,6 +78,49 @@ public final class LanguageTest {
         checkFields();
     }
 
+    /** The document's face, word for word: names of parameters and the order of members, too. */
+    private static void checkFaceOfDocument() throws Exception {
+        if (!Files.exists(DOCUMENT)) {
+            return;
+        }
+        String source = Files.readString(Path.of(SOURCE));
+        String document = Files.readString(DOCUMENT);
+        int start = document.indexOf("public final class ShunLots {");
+        int end = document.indexOf("```", Math.max(0, start));
+        due("the document has a face", start >= 0 && end > start);
+        int at = 0;
+        int members = 0;
+        for (String line : document.substring(Math.max(0, start), Math.max(0, end)).split("\n")) {
+            if (line.startsWith("    public ")) {
+                String member = line.endsWith(");") ? line.replace(");", ") {") : line;
+                int next = source.indexOf("\n" + member + "\n", at);
+                due("the source has, in the document's order," + line, next >= 0);
+                at = Math.max(at, next);
+                members++;
+            }
+        }
+        due("the document's face has " + members + " members", members == FACE.length + 2);
+    }
+
+    private static void checkCounts() {
+        Class<?>[] inner = ShunLots.class.getDeclaredClasses();
+        due("at most twelve classes", inner.length + 1 <= MOST_CLASSES);
+        for (Class<?> owner : inner) {
+            due(owner + " has at most twenty fields", fieldsOf(owner) <= MOST_FIELDS);
+        }
+        due("at most twenty fields", fieldsOf(ShunLots.class) <= MOST_FIELDS);
+    }
+
+    private static int fieldsOf(Class<?> owner) {
+        int fields = 0;
+        for (Field field : owner.getDeclaredFields()) {
+            if (!Modifier.isStatic(field.getModifiers())) {
+                fields++;
+            }
+        }
+        return fields;
+    }
+
     private static void checkNames(Class<?> owner, TreeSet<String> names) {
         for (Method method : owner.getDeclaredMethods()) {
             due(method + " bears a public one's name", Modifier.isPublic(method.getModifiers())
@@ -128,6 +174,8 @@ public final class LanguageTest {
 
     public static void main(String[] args) throws Exception {
         checkFace();
+        checkFaceOfDocument();
+        checkCounts();
         checkSource();
         System.out.println(wrong == 0 ? "the face and the rules hold" : wrong + " rules are broken");
         if (wrong != 0) {
